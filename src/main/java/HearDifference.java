@@ -468,7 +468,7 @@ public final class HearDifference {
         return true;
     }
 
-    /** Taking always the least WORD that is far enough leaves the most room, so the set is the greatest and the first. */
+    /** The least WORD that is far enough leaves the most room: so the set is the greatest, and the first. */
     private static int firstSafeWords(int sayable) {
         int chosen = 0;
         int next = 1;
@@ -1385,7 +1385,7 @@ public final class HearDifference {
             return NONE;
         }
 
-        /** mirror has bit 24 - t for each tone t of the row: moved down by 24 - tone, it is the set of WORDS up to a tone. */
+        /** mirror has bit 24 - t for each tone t of the row: 24 - tone places down it is the WORDS up to a tone. */
         private boolean extend(int placed, int size, int mirror, int missing) {
             if (placed >= size || placed >= MOST_FEWEST) {
                 return missing == 0;

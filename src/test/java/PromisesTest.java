@@ -242,7 +242,15 @@ public final class PromisesTest {
         fault("hear; x", 1, 6);
         fault("Hear;", 1, 0);
         fault("hearX;", 1, 0);
-        fault("hears;", 1, 0);
+        fault("hearA;", 1, 0);
+        fault("hearZ;", 1, 0);
+        fault("heara;", 1, 0);
+        fault("hearz;", 1, 0);
+        fault("hear@;", 1, 4);
+        fault("hear[;", 1, 4);
+        fault("hear`;", 1, 4);
+        fault("hear{;", 1, 4);
+        fault("hear when 1/2:=1;", 1, 13);
         fault("hea;", 1, 0);
         fault("hear\t;", 1, 4);
         fault("hear\r;", 1, 4);
@@ -262,6 +270,10 @@ public final class PromisesTest {
         fault("hear when (1=1;", 1, 14);
         fault("hear when (1=1)=1;", 1, 15);
         fault("hear when (1=1) 1=1;", 1, 16);
+        fault("hear when (1=1)+1=1;", 1, 15);
+        fault("hear when (1=1)*1;", 1, 15);
+        fault("hear when (1=1)/1 and 1=1;", 1, 15);
+        fault("hear when (1=1)not 1=1;", 1, 15);
         fault("hear when ();", 1, 11);
         fault("hear when not;", 1, 13);
         fault("hear when 1=1 not 1=1;", 1, 14);
@@ -877,6 +889,44 @@ public final class PromisesTest {
         x.hours(1);
         x.image(false);
         due(26, "the later image", x.look(1), 4);
+        contentsOfImage();
+    }
+
+    /** What has the same length before and after must come back too. */
+    private static void contentsOfImage() {
+        HearDifference x = choir(30, 40, 50, 60);
+        x.speak(0, 1);
+        x.speak(0, 2);
+        x.pair(0, 1);
+        x.pair(1, 2);
+        x.tell(7);
+        x.tune(0, 20);
+        x.image(true);
+        x.undo();
+        x.undo();
+        x.speak(2, 3);
+        x.speak(1, 3);
+        x.pair(-1, 0);
+        x.pair(0, 1);
+        x.pair(0, 3);
+        x.tell(-1);
+        x.tell(8);
+        x.tune(0, -1);
+        x.tune(0, 21);
+        x.set(0, 0, 5);
+        due(26, "turnOf(0)", x.turnOf(0), 2);
+        x.pair(-1, 0);
+        x.pair(0, 2);
+        x.pair(1, 3);
+        due(26, "turnOf(0)", x.turnOf(0), 1);
+        x.image(false);
+        due(26, "the pairs are those of then", x.turnOf(0), 2);
+        due(26, "book(0, 1)", x.book(0, 1), 1);
+        due(26, "book(1, 1)", x.book(1, 1), 2);
+        due(26, "book(1, 2)", x.book(1, 2), 20);
+        due(26, "fit(2, 11)", x.fit(2, 11), 7);
+        x.tune(1, 20);
+        due(26, "same(0, 1)", x.same(0, 1), 3);
     }
 
     private static void look() {
