@@ -797,6 +797,14 @@ public final class TermsEdgesTest {
         says("ALONE: PEOPLE a, b (both not p) could take other HUMS to say a WORD d so that p HEARS it and nobody else");
         HearDifference x = choir(10, -1, -1, 40);
         due("nobody may hear it but p", x.alone(0, 1, 2, 0, 0), 0);
+        due("nobody, the first of all neither", x.alone(3, 1, 2, 0, 0), 0);
+        HearDifference ten = choir(1, 2, 3, 4, 5, 6, 7, 8, 9, 10);
+        for (int other : new int[] {0, 3, 9}) {
+            law(ten, "hear when who=4 or who=" + other + ";miss;");
+            due("4 and " + other + " hear it", ten.alone(4, 1, 2, 0, 0), 0);
+        }
+        law(ten, "hear when who=4 or who=1 or who=2;miss;");
+        due("4 and the two who say it", ten.alone(4, 1, 2, 0, 0), 61);
         due("a is p", x.alone(0, 0, 2, 0, 0), -1);
         due("b is p", x.alone(0, 1, 0, 0, 0), -1);
         x.set(0, 3, -1);
