@@ -60,9 +60,8 @@ public final class HearDifference {
     private final World kept;
     private boolean imageTaken;
     private final Past past;
-    private final byte[] tape;
-    private int tapeLength;
     private final Reader reader;
+    private int tapeLength;
     private int latestFault;
     private int latestPlace;
     private final Ear ear;
@@ -75,12 +74,11 @@ public final class HearDifference {
         kept = new World();
         imageTaken = false;
         past = new Past();
-        tape = new byte[MOST_BYTES];
+        reader = new Reader();
         tapeLength = 0;
-        reader = new Reader(tape);
         latestFault = 0;
         latestPlace = NONE;
-        ear = new Ear(world);
+        ear = new Ear();
         turns = new Turns();
         fitting = new Fitting();
         cover = new Cover();
@@ -156,7 +154,7 @@ public final class HearDifference {
             return NONE;
         }
         past.keep(world);
-        int hearers = ear.hearersOf(a, b);
+        int hearers = ear.hearersOf(world, a, b);
         world.book.write(Math.min(a, b), Math.max(a, b), world.wordOf(a, b), world.hourNow, hearers);
         return hearers;
     }
@@ -185,9 +183,9 @@ public final class HearDifference {
             case 2:
                 return world.louds[person];
             case 3:
-                return ear.couplesHeard(person, world.voices);
+                return ear.couplesHeard(world, person, world.voices);
             case 4:
-                return ear.wordsHeard(person, world.voices);
+                return ear.wordsHeard(world, person, world.voices);
             default:
                 return NONE - 1;
         }
@@ -197,7 +195,7 @@ public final class HearDifference {
         if (!areThree(person, a, b) || !world.hasHum(a) || !world.hasHum(b)) {
             return NONE;
         }
-        return ear.hearsNow(person, world.voices, a, b) ? 1 : 0;
+        return ear.hearsNow(world, person, world.voices, a, b) ? 1 : 0;
     }
 
     public int deaf(int person, int without) {
@@ -205,7 +203,7 @@ public final class HearDifference {
             return NONE - 999;
         }
         int fewer = world.voices & ~(1 << without);
-        return ear.couplesHeard(person, world.voices) - ear.couplesHeard(person, fewer);
+        return ear.couplesHeard(world, person, world.voices) - ear.couplesHeard(world, person, fewer);
     }
 
     public int book(int i, int what) {
@@ -321,7 +319,8 @@ public final class HearDifference {
         int count = 0;
         int least = NONE;
         for (int tone = HIGHEST_TONE - d; tone >= 0; tone--) {
-            if (ear.onlyOneHears(p, a, b, tone, tone + d)) {
+            ear.attend(world, a, b, tone, tone + d);
+            if (ear.onlyOneHears(world, p)) {
                 count++;
                 least = tone;
             }
@@ -451,7 +450,7 @@ public final class HearDifference {
 
     private void putBytes(int four) {
         for (int shift = 24; shift >= 0 && tapeLength < MOST_BYTES; shift -= 8) {
-            tape[tapeLength] = (byte) (four >> shift);
+            reader.tape[tapeLength] = (byte) (four >> shift);
             tapeLength++;
         }
     }
@@ -729,10 +728,10 @@ public final class HearDifference {
         private static final int VALUE_TAIL = 5;
         private static final int CONDITION_TAIL = 6;
 
+        private final byte[] tape;
         private final Law draft;
         private int foundFault;
         private int foundPlace;
-        private final byte[] bytes;
         private int length;
         private int kind;
         private int number;
@@ -747,8 +746,8 @@ public final class HearDifference {
         private int top;
         private int open;
 
-        private Reader(byte[] bytes) {
-            this.bytes = bytes;
+        private Reader() {
+            tape = new byte[MOST_BYTES];
             draft = new Law();
             waiting = new int[ROOM];
             foundPlace = NONE;
@@ -998,7 +997,7 @@ public final class HearDifference {
 
         /** The sign at a place, 0 to 255; 0 where the text has none. */
         private int signAt(int i) {
-            return i >= 0 && i < length && i < bytes.length ? bytes[i] & 255 : 0;
+            return i >= 0 && i < length && i < tape.length ? tape[i] & 255 : 0;
         }
 
         private static boolean isBlank(int sign) {
@@ -1060,38 +1059,41 @@ public final class HearDifference {
         /** Eight open brackets keep two values each, the innermost condition six: 22 at most. */
         private static final int ROOM = 32;
 
-        private final World world;
         private final int[] stack;
         private int top;
+        /** What all who listen have in common: the two tones, who sings them, how loudly, and when. */
         private int low;
         private int high;
-        private int own;
+        private int singers;
         private int bothLoud;
-        private int crowd;
+        private int hour;
+        /** What is another's for each who listens. */
         private int listener;
+        private int own;
+        private int crowd;
 
-        private Ear(World world) {
-            this.world = world;
+        private Ear() {
             stack = new int[ROOM];
         }
 
         /** The set of all others who HEAR a and b. */
-        private int hearersOf(int a, int b) {
+        private int hearersOf(World world, int a, int b) {
+            attend(world, a, b, world.hums[a], world.hums[b]);
             int hearers = 0;
             for (int i = 0; i < world.people; i++) {
-                if (i != a && i != b && hearsNow(i, world.voices, a, b)) {
+                if (!isSinger(i) && hearsThem(world, i, world.voices)) {
                     hearers |= 1 << i;
                 }
             }
             return hearers;
         }
 
-        private int couplesHeard(int person, int voices) {
+        private int couplesHeard(World world, int person, int voices) {
             int count = 0;
             int others = voices & ~(1 << person);
             for (int a = 0; a < world.people; a++) {
                 for (int b = 0; b < a; b++) {
-                    if ((others >> a & others >> b & 1) == 1 && hearsNow(person, voices, a, b)) {
+                    if ((others >> a & others >> b & 1) == 1 && hearsNow(world, person, voices, a, b)) {
                         count++;
                     }
                 }
@@ -1099,12 +1101,12 @@ public final class HearDifference {
             return count;
         }
 
-        private int wordsHeard(int person, int voices) {
+        private int wordsHeard(World world, int person, int voices) {
             long words = 0;
             int others = voices & ~(1 << person);
             for (int a = 0; a < world.people; a++) {
                 for (int b = 0; b < a; b++) {
-                    if ((others >> a & others >> b & 1) == 1 && hearsNow(person, voices, a, b)) {
+                    if ((others >> a & others >> b & 1) == 1 && hearsNow(world, person, voices, a, b)) {
                         words |= 1L << world.wordOf(a, b);
                     }
                 }
@@ -1112,33 +1114,45 @@ public final class HearDifference {
             return Long.bitCount(words);
         }
 
-        private boolean hearsNow(int person, int voices, int a, int b) {
-            return hearsTones(person, voices, a, b, world.hums[a], world.hums[b]);
+        private boolean hearsNow(World world, int person, int voices, int a, int b) {
+            attend(world, a, b, world.hums[a], world.hums[b]);
+            return hearsThem(world, person, voices);
         }
 
-        private boolean onlyOneHears(int only, int a, int b, int toneA, int toneB) {
-            if (!hearsTones(only, world.voices, a, b, toneA, toneB)) {
+        /** Two PEOPLE sing two tones, be they their HUMS or not. */
+        private void attend(World world, int a, int b, int toneA, int toneB) {
+            low = Math.min(toneA, toneB);
+            high = Math.max(toneA, toneB);
+            singers = 1 << a | 1 << b;
+            bothLoud = world.louds[a] + world.louds[b];
+            hour = world.hourNow;
+        }
+
+        private boolean isSinger(int person) {
+            return (singers >> person & 1) == 1;
+        }
+
+        /** Whether one HEARS what is attended to, and nobody else but those who sing it. */
+        private boolean onlyOneHears(World world, int only) {
+            if (!hearsThem(world, only, world.voices)) {
                 return false;
             }
             for (int i = 0; i < world.people; i++) {
-                if (i != only && i != a && i != b && hearsTones(i, world.voices, a, b, toneA, toneB)) {
+                if (i != only && !isSinger(i) && hearsThem(world, i, world.voices)) {
                     return false;
                 }
             }
             return true;
         }
 
-        /** Whether a PERSON HEARS what a and b sing, if those in the set voices are SOUNDING. */
-        private boolean hearsTones(int person, int voices, int a, int b, int toneA, int toneB) {
+        /** Whether a PERSON HEARS what is attended to, if those in the set voices are SOUNDING. */
+        private boolean hearsThem(World world, int person, int voices) {
             if (!world.hasHum(person)) {
                 return false;
             }
-            low = Math.min(toneA, toneB);
-            high = Math.max(toneA, toneB);
-            own = world.hums[person];
-            bothLoud = world.louds[a] + world.louds[b];
-            crowd = Integer.bitCount(voices & ~(1 << person | 1 << a | 1 << b));
             listener = person;
+            own = world.hums[person];
+            crowd = Integer.bitCount(voices & ~(singers | 1 << person));
             Law law = world.law;
             int begin = 0;
             for (int line = 0; line < law.lines; line++) {
@@ -1204,7 +1218,7 @@ public final class HearDifference {
                 case CROWD:
                     return crowd;
                 case HOUR:
-                    return world.hourNow;
+                    return hour;
                 case WHO:
                     return listener;
                 default:

@@ -6,7 +6,9 @@ import java.nio.file.Files;
 import java.nio.file.Path;
 import java.util.ArrayList;
 import java.util.List;
+import java.util.Map;
 import java.util.Set;
+import java.util.TreeMap;
 import java.util.TreeSet;
 import java.util.regex.Matcher;
 import java.util.regex.Pattern;
@@ -36,6 +38,8 @@ public final class LanguageTest {
             .replaceAll("\"[^\"\n]*\"", "\"\"").replaceAll("'[^'\n]+'", "' '");
         words(code);
         methods(code);
+        constructors(code);
+        depth(code);
         face();
         System.out.println(wrong == 0 ? "the rules are kept" : wrong + " rules are not kept");
         if (wrong != 0) {
@@ -82,6 +86,77 @@ public final class LanguageTest {
         need(open.size() == FACE.length, "public methods: " + open);
         hidden.retainAll(open);
         need(hidden.isEmpty(), "private ones with a public name: " + hidden);
+    }
+
+    /** Rule 12: a constructor hands out nothing of the object that it makes, neither itself nor a part. */
+    private static void constructors(String code) {
+        none(code, "[(,] *this *[,)]");
+        Pattern head = Pattern.compile("^( {4}| {8})(public|private) (\\w+)\\((.*)\\) \\{$");
+        String[] lines = code.split("\n");
+        int seen = 0;
+        for (int i = 0; i < lines.length; i++) {
+            Matcher m = head.matcher(lines[i]);
+            if (!m.matches()) {
+                continue;
+            }
+            seen++;
+            need(m.group(4).isEmpty(), "a constructor is handed something: " + lines[i].trim());
+            for (i++; !lines[i].equals(m.group(1) + "}"); i++) {
+                need(lines[i].matches(".*= new \\w+(\\(\\)|\\[[A-Z_ *+0-9]+\\]);")
+                    || lines[i].matches(".*= (NONE|false|0);")
+                    || lines[i].matches(" +Arrays\\.fill\\(\\w+, [A-Z_]+\\);"),
+                    "a constructor does more than make its own: " + lines[i].trim());
+            }
+        }
+        need(seen >= 2, "constructors seen: " + seen);
+    }
+
+    /** Rule 11: calls that are no recursion go at most eight deep; a method that calls itself counts once. */
+    private static void depth(String code) {
+        Map<String, String> bodies = new TreeMap<>();
+        Pattern head = Pattern.compile("^( {4}| {8})(public|private) (static )?\\w+(\\[\\])? (\\w+)\\((.*)\\) \\{$");
+        Pattern type = Pattern.compile("^ {4}private static final class (\\w+) \\{$");
+        String[] lines = code.split("\n");
+        String owner = "";
+        for (int i = 0; i < lines.length; i++) {
+            Matcher m = head.matcher(lines[i]);
+            Matcher t = type.matcher(lines[i]);
+            owner = t.matches() ? t.group(1) : owner;
+            if (m.matches()) {
+                StringBuilder body = new StringBuilder();
+                for (i++; !lines[i].equals(m.group(1) + "}"); i++) {
+                    body.append(lines[i]).append('\n');
+                }
+                bodies.put(owner + "." + m.group(5), body.toString());
+            }
+        }
+        Map<String, Integer> deep = new TreeMap<>();
+        int deepest = 0;
+        for (String method : bodies.keySet()) {
+            deepest = Math.max(deepest, deepOf(method, bodies, deep, 0));
+        }
+        need(deepest >= 4 && deepest <= 8, "calls go " + deepest + " deep: " + deep);
+    }
+
+    private static int deepOf(String method, Map<String, String> bodies, Map<String, Integer> deep, int open) {
+        if (deep.containsKey(method) || open > 40) {
+            need(open <= 40, "methods that call one another: " + method);
+            return deep.getOrDefault(method, open);
+        }
+        int below = 0;
+        String owner = method.substring(0, method.indexOf('.'));
+        Matcher m = Pattern.compile("(\\.?)\\b(\\w+)\\(").matcher(bodies.get(method));
+        while (m.find()) {
+            for (String other : bodies.keySet()) {
+                boolean named = other.endsWith("." + m.group(2)) && !other.equals(method);
+                boolean own = other.startsWith(owner + ".");
+                if (named && own == m.group(1).isEmpty()) {
+                    below = Math.max(below, deepOf(other, bodies, deep, open + 1));
+                }
+            }
+        }
+        deep.put(method, below + 1);
+        return below + 1;
     }
 
     private static void face() {
