@@ -185,7 +185,7 @@ public final class HearDifference {
             case 3:
                 return ear.couplesHeard(world, person, world.voices);
             case 4:
-                return ear.wordsHeard(world, person, world.voices);
+                return ear.wordsHeard(world, person);
             default:
                 return NONE - 1;
         }
@@ -1101,12 +1101,12 @@ public final class HearDifference {
             return count;
         }
 
-        private int wordsHeard(World world, int person, int voices) {
+        private int wordsHeard(World world, int person) {
             long words = 0;
-            int others = voices & ~(1 << person);
+            int others = world.voices & ~(1 << person);
             for (int a = 0; a < world.people; a++) {
                 for (int b = 0; b < a; b++) {
-                    if ((others >> a & others >> b & 1) == 1 && hearsNow(world, person, voices, a, b)) {
+                    if ((others >> a & others >> b & 1) == 1 && hearsNow(world, person, world.voices, a, b)) {
                         words |= 1L << world.wordOf(a, b);
                     }
                 }
